@@ -140,7 +140,7 @@ public final class ModelTest {
             case "kite": return all(about(1, 5), about(0, 63), about(0, 9), about(0, 5));
             case "kiteOf": return all(aKite(), about(0, 9));
             case "change": return change();
-            case "remake": return all(aKite(), about(1, 5));
+            case "remake": return remake();
             case "wind": return all(about(0, 15), about(0, 15));
             case "farm": return farm();
             case "farmOf": return all(about(0, 5), about(0, 1));
@@ -178,8 +178,8 @@ public final class ModelTest {
             case "sheet": return all(sheet, chance.nextInt(3) == 0 ? 0 : about(-1, 4), chance.nextInt(4) == 0 ? about(0, 40) : 5);
             case "write": return all(sheet, about(0, 5), chance.nextInt(3) == 0 ? chance.nextInt() : chance.nextInt(8));
             case "item": return all(sheet, about(0, 4), about(0, 5));
-            case "goAll": return all(sheet, about(0, 5), chance.nextInt(9) == 0 ? about(1, 20) : 1 + chance.nextInt(4));
-            case "wouldBe": return all(sheet, about(0, 5), chance.nextInt(9) == 0 ? about(1, 20) : 1 + chance.nextInt(4));
+            case "goAll": return all(sheet, about(0, 5), items());
+            case "wouldBe": return all(sheet, about(0, 5), items());
             case "shelf":
                 int what = about(0, 2);
                 return all(sheet, what, what == 0 ? aKite() : about(0, 3));
@@ -189,6 +189,17 @@ public final class ModelTest {
             case "many": return all(about(0, 6));
             default: return all();
         }
+    }
+
+    private int items() {
+        int n = chance.nextInt(9) == 0 ? about(1, 20) : 1 + chance.nextInt(4);
+        return n == 0 ? 1 : n;
+    }
+
+    private Object[] remake() {
+        int k = aKite();
+        int kind = about(1, 5);
+        return all(k, kind == model.kiteOf(k, 0) ? kind % 5 + 1 : kind);
     }
 
     private Object[] change() {
