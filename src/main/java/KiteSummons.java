@@ -1134,15 +1134,15 @@ public final class KiteSummons {
         }
 
         int willOf(Sky now, int k) {
-            layFacts(now, k);
+            layFacts(now, k, farFromFarm(now, k));
             return rules.doFor(kind[k]);
         }
 
-        private void layFacts(Sky now, int k) {
+        private void layFacts(Sky now, int k, int far) {
             int[] facts = rules.facts;
             facts[0] = now.gust;
             facts[1] = now.string[k];
-            facts[2] = farFromFarm(now, k);
+            facts[2] = far;
             facts[3] = name[k];
             facts[4] = k;
         }
@@ -1190,7 +1190,7 @@ public final class KiteSummons {
             int worth = 0;
             if (told != NOBODY && isIn(now.aloft, told)) {
                 int far = farFromFarm(now, told);
-                layFacts(now, told);
+                layFacts(now, told, far);
                 int will = rules.doFor(kind[told]);
                 if (will != HOLD) {
                     now.aloft = withBit(now.aloft, told, 0);
@@ -1199,7 +1199,7 @@ public final class KiteSummons {
                     worth = 1;
                 } else if (will == SERVE && far <= comes[name[told]]) {
                     now.served = withBit(now.served, told, 1);
-                    worth = feeOf(told) + Math.max(0, 9 - far);
+                    worth = kinds[kind[told]].fee(told) + Math.max(0, 9 - far);
                 }
             }
             now.score += worth;

@@ -9,8 +9,8 @@ import java.util.Random;
 
 /** Any call in many states: none throws, what is refused changes nothing, and nor does what is only asked. */
 public final class AnyCallTest {
-    private static final int[] NUMBERS = {Integer.MIN_VALUE, -100, -16, -15, -3, -2, -1, 0, 1, 2, 3, 4, 5, 6, 7, 8, 9, 10, 11,
-        12, 13, 14, 15, 16, 17, 20, 21, 31, 39, 40, 41, 62, 63, 64, 65, 199, 200, 999, 1000, Integer.MAX_VALUE - 1,
+    private static final int[] NUMBERS = {Integer.MIN_VALUE, -100, -16, -15, -3, -2, -1, 0, 1, 2, 3, 4, 5, 6, 7, 8, 9, 10,
+        11, 12, 13, 14, 15, 16, 17, 20, 21, 31, 39, 40, 41, 62, 63, 64, 65, 199, 200, 999, 1000, Integer.MAX_VALUE - 1,
         Integer.MAX_VALUE};
     /** With those of look() an object has 512 at most. */
     private static final int MOST_CALLS = 260;

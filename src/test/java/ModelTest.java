@@ -14,7 +14,8 @@ public final class ModelTest {
     private static final String[] KINDS = {"kite", "red", "heavy", "judge", "box", "old"};
     private static final String[] DOINGS = {"serve", "hold", "cut"};
     private static final String[] FACTS = {"gust", "string", "far", "name", "number"};
-    private static final String[] STRAYS = {"(", ")", ";", "not ", "and", "if", "12345", "00001", "x", "=", "\u00e9", "\t", "A"};
+    private static final String[] STRAYS = {"(", ")", ";", "not ", "and", "if", "12345", "00001", "x", "=",
+        "\u00e9", "\t", "A"};
 
     private final Random chance;
     private final KiteSummons x = new KiteSummons();
@@ -175,7 +176,8 @@ public final class ModelTest {
     private Object[] hostArgumentsOf(String name) {
         int sheet = chance.nextInt(30) == 0 ? about(0, 3) : chance.nextInt(4);
         switch (name) {
-            case "sheet": return all(sheet, chance.nextInt(3) == 0 ? 0 : about(-1, 4), chance.nextInt(4) == 0 ? about(0, 40) : 5);
+            case "sheet": return all(sheet, chance.nextInt(3) == 0 ? 0 : about(-1, 4),
+                chance.nextInt(4) == 0 ? about(0, 40) : 5);
             case "write": return all(sheet, about(0, 5), chance.nextInt(3) == 0 ? chance.nextInt() : chance.nextInt(8));
             case "item": return all(sheet, about(0, 4), about(0, 5));
             case "goAll": return all(sheet, about(0, 5), items());
@@ -226,7 +228,8 @@ public final class ModelTest {
         if (chance.nextInt(3) == 0 && text.length() > 0) {
             int at = chance.nextInt(text.length());
             String stray = STRAYS[chance.nextInt(STRAYS.length)];
-            text = text.substring(0, at) + (chance.nextBoolean() ? stray : "") + text.substring(Math.min(text.length(), at + chance.nextInt(3)));
+            text = text.substring(0, at) + (chance.nextBoolean() ? stray : "")
+                + text.substring(Math.min(text.length(), at + chance.nextInt(3)));
         }
         byte[] bytes = text.getBytes(java.nio.charset.StandardCharsets.ISO_8859_1);
         for (int i = 0; i < bytes.length; i += 8) {
@@ -254,7 +257,8 @@ public final class ModelTest {
         StringBuilder text = new StringBuilder();
         int rules = chance.nextInt(5);
         for (int i = 0; i < rules; i++) {
-            String rule = one(KINDS) + " " + (chance.nextInt(4) == 0 ? "" : "if " + condition(0) + " ") + one(DOINGS) + blank() + ";" + blank();
+            String when = chance.nextInt(4) == 0 ? "" : "if " + condition(0) + " ";
+            String rule = one(KINDS) + " " + when + one(DOINGS) + blank() + ";" + blank();
             if (text.length() + rule.length() < 205) {
                 text.append(rule);
             }

@@ -8,6 +8,7 @@ public final class RulesTest {
         faults();
         faultsOfRows();
         tapeIsUsedUp();
+        toldOften();
         kinds();
         conditions();
         facts();
@@ -139,6 +140,9 @@ public final class RulesTest {
         due.is("13: more must come", x.rules(), -104);
         Due.feed(x, " cut;");
         due.is("13: nothing is left of it", x.rules(), -101);
+        due.is("13: 200 bytes of their own", Due.told(x, ";".repeat(200)), -100);
+        due.is("13: 200 digits", Due.told(x, "7".repeat(200)), -100);
+        due.is("13: 200 letters", Due.told(x, "k".repeat(200)), -100);
         StringBuilder full = new StringBuilder("kite if ");
         for (int i = 0; i < 36; i++) {
             full.append("1=1or");
@@ -147,6 +151,22 @@ public final class RulesTest {
         due.is("13: 200 bytes", full.length(), 200);
         due.is("13: all are read", Due.told(x, full.toString()), 1);
         due.is("13: and what ends them", Due.told(x, full.substring(0, 199)), -299);
+    }
+
+    /** What was told once leaves no room taken. */
+    private static void toldOften() {
+        KiteSummons x = Due.county();
+        String no = "kite if " + "1=2 or ".repeat(20) + "1=3 cut;";
+        String fault = "kite if " + "1=2 or ".repeat(20) + "1=3 cut";
+        String yes = "kite if " + "1=2 or ".repeat(20) + "1=1 hold;";
+        for (int i = 0; i < 5; i++) {
+            due.is("13: told once more", Due.told(x, no), 1);
+            due.is("13: WILL", x.kiteOf(0, 8), 0);
+            due.is("13: told once more", Due.told(x, yes), 1);
+            due.is("13: WILL", x.kiteOf(0, 8), 1);
+            due.is("13: a FAULT", Due.told(x, fault), -100 - fault.length());
+            due.is("13: WILL as it was", x.kiteOf(0, 8), 1);
+        }
     }
 
     private static void will(String text, int k, int will) {
